@@ -262,6 +262,14 @@ public final class PromiseTest {
         due("11 no such line of none", new StageCount().strangers(10), OUTSIDE);
         due("11 no lines: comings", new StageCount().strangers(0), 0);
         due("11 no lines: most", new StageCount().strangers(1), 0);
+        x.set(1, 3);
+        Check.say(x, "A..B..abCDEF.");
+        due("11 bar at the last line", x.strangers(2), 4);
+        Check.say(x, "A.B..");
+        due("11 who stays does not come", x.strangers(0), 2);
+        due("11 the most at the first line", x.strangers(1), 2);
+        due("11 no bar, as the longer play is gone", x.strangers(2), NONE);
+        due("11 bar at the first line", Check.say(x, "ABCD.a.").strangers(2), 0);
     }
 
     private static void promise12Cuts() {
@@ -280,6 +288,9 @@ public final class PromiseTest {
         due("12 all go", x.cuts(), 5);
         x.set(1, 0);
         due("12 no lines", Check.say(x, "A").cuts(), 0);
+        x.set(0, 1);
+        due("12 the longer play is gone", Check.say(x, "A..").cuts(), 0);
+        x.set(0, 2);
         due("12 eight", Check.say(x, "ABCDEFGH..h.").cuts(), 1);
     }
 
@@ -304,6 +315,8 @@ public final class PromiseTest {
         due("13 H too", x.cast(7), 0);
         due("13 comes, but has no line", Check.say(x, "AaB.").cast(0), NONE);
         due("13 numbered as they first come", x.cast(1), 0);
+        due("13 another has no line", Check.say(x, "C.").cast(1), NONE);
+        due("13 nor has the first", x.cast(0), NONE);
         due("13 eight at once", Check.say(x, "ABCDEFGH.").cast(-1), 8);
         due("13 the last of eight", x.cast(7), 7);
         // A and D clash, B and C clash
@@ -355,6 +368,9 @@ public final class PromiseTest {
         due("14 taken over in time", x.ill(0, 3), 0);
         x.set(2, 2);
         due("14 no time to change", x.ill(0, 3), 1);
+        x.set(2, 0);
+        Check.say(x, "A.BC.ab.B.");
+        due("14 the first player can, and he alone", x.ill(1, 2), 0);
     }
 
     private static void promise15Scene() {
@@ -402,6 +418,11 @@ public final class PromiseTest {
         due("17 negative", x.order(-2), NONE);
         due("17 least", x.order(LEAST), NONE);
         due("17 greatest", x.order(GREATEST), NONE);
+        x.strike();
+        x.scene(2);
+        x.scene(1);
+        due("17 either way round", x.order(-1), 4);
+        due("17 nobody is on ahead", x.order(0), 0);
         x.strike();
         for (int i = 0; i < 6; i++) {
             x.scene(3);
@@ -463,6 +484,10 @@ public final class PromiseTest {
         x.forget();
         x.seen(2, 3);
         due("20 no such line", x.fits(-1), 0);
+        x.forget();
+        x.seen(2, 0);
+        due("20 no such line, of nobody", x.fits(-1), 0);
+        due("20 nobody at that line", Check.say(x, "...").fits(-1), 1);
         due("20 fault", Check.stage("A?*").fits(-1), NO);
         due("20 four ?", Check.stage("????").fits(0), NO);
         due("20 fault ahead of none", Check.stage("*").fits(5), NO);
@@ -569,6 +594,15 @@ public final class PromiseTest {
         due("24 the pad is not kept", x.told(0), 2);
         due("24 sight", x.fits(-1), 0);
         due("24 sight of two", Check.say(x, "AB.").fits(-1), 1);
+        x.forget();
+        x.seen(1, 2);
+        x.image(0);
+        x.forget();
+        x.seen(0, 2);
+        x.restore(0);
+        due("24 sight's line", Check.say(x, "A.B.").fits(-1), 1);
+        x.restore(1);
+        Check.say(x, "AB.");
         due("24 must not", x.may(0, 1, 0), 1);
         due("24 must", x.may(2, 3, 0), 2);
         due("24 twice", x.restore(1), 1);
