@@ -777,6 +777,9 @@ public final class StageCount {
 
     /** The order of SCENES by which the fewest come on and go off. */
     private static final class SceneOrder {
+        /** No order lets more come and go than all PARTS ahead of, between and behind all SCENES. */
+        private static final int MORE_THAN_ANY = PARTS * (SCENES + 1) + 1;
+
         private int fewest;
         private final int[] row;
         private int scenes;
@@ -811,14 +814,17 @@ public final class StageCount {
         }
 
         private int fewestFrom(int played, int on) {
-            int least = Integer.MAX_VALUE;
+            if (played == (1 << scenes) - 1) {
+                // no SCENE is left: all go
+                return Integer.bitCount(on);
+            }
+            int least = MORE_THAN_ANY;
             for (int next = 0; next < scenes; next++) {
                 if ((played >> next & 1) == 0) {
                     least = Math.min(least, fewestBy(next, played, on));
                 }
             }
-            // no SCENE is left: all go
-            return least == Integer.MAX_VALUE ? Integer.bitCount(on) : least;
+            return least;
         }
 
         private void fillRow() {
@@ -861,13 +867,16 @@ public final class StageCount {
                 return;
             }
             int all = 1 << (3 * play.asked);
+            int next = 0;
             for (int way = 0; way < all; way++) {
-                play.perform(way);
-                if (play.impossibleAt == NONE) {
-                    keep(play, way);
+                if (way >= next) {
+                    play.perform(way);
+                    if (play.impossibleAt == NONE) {
+                        keep(play, way);
+                    }
+                    // ways that differ only in ? behind what can not be fail there too
+                    next = way + (1 << (3 * (play.asked - play.met)));
                 }
-                // ways that differ only in ? behind what can not be fail there too
-                way |= (1 << (3 * (play.asked - play.met))) - 1;
             }
         }
 

@@ -19,7 +19,7 @@ public final class FaceTest {
     private static final String[] KEPT_OUT = {
         "->", "::", "\\bcatch\\b", "\\bfinally\\b", "\\bassert\\b", "\\bsynchronized\\b", "\\bpackage\\b", "Exact\\b",
         "\\bvar\\b", "\\bthrows?\\b", "static \\{", "\\bprotected\\b", "\\bInteger\\.valueOf\\b", "import (?!java\\.util\\.Arrays;)",
-        "[^\\x00-\\x7f]", "\t", "\\bSystem\\.(?!arraycopy\\b)"};
+        "[^\\x00-\\x7f]", "\t", "\\bM(AX|IN)_VALUE\\b", "\\bSystem\\.(?!arraycopy\\b)"};
 
     private static final Check check = new Check();
 
@@ -70,6 +70,10 @@ public final class FaceTest {
         for (Class<?> inside : StageCount.class.getDeclaredClasses()) {
             check.that(inside.getName() + " is static", Modifier.isStatic(inside.getModifiers()));
             check.that(inside.getName() + " has few fields", inside.getDeclaredFields().length <= 20);
+            for (Method method : inside.getDeclaredMethods()) {
+                check.that(method.getName() + " takes few", method.getParameterCount() <= 7);
+                check.that(method.getName() + " bears no public name inside", !publics.contains(method.getName()));
+            }
         }
         check.that("few classes", StageCount.class.getDeclaredClasses().length <= 12);
     }
