@@ -3,7 +3,7 @@ import java.util.Random;
 /** Long runs of drawn calls, each answered by the class and by PlainStage. */
 public final class PlainTest {
     private static final int RUNS = 700;
-    private static final int CALLS = 500;
+    private static final int CALLS = 470;
     private static final int[] FAR = {Integer.MIN_VALUE, Integer.MAX_VALUE, -7, -6, -3, -2, -1, 41, 256, 10000, 100};
 
     private static final Check check = new Check();
